@@ -865,12 +865,16 @@ public final class GossipWatch {
             return i >= 0 && i < headCount;
         }
 
+        private boolean hasFact(int i) {
+            return i >= 0 && i < factCount;
+        }
+
         boolean hasRecord(int i) {
             return i >= 0 && i < recordCount;
         }
 
         int ofFact(int i, int what) {
-            if (i < 0 || i >= factCount || what < 0 || what >= 4 + HASH) {
+            if (!hasFact(i) || what < 0 || what >= 4 + HASH) {
                 return NONE;
             }
             switch (what) {
@@ -896,13 +900,16 @@ public final class GossipWatch {
                 return;
             }
             int[] fields = records[i];
+            if (!hasHead(fields[1]) || !hasHead(fields[2])) {
+                return;
+            }
             Row first = heads[fields[1]];
             to.empty();
             to.add(fields[0]);
             to.add(first.at(0));
             to.addPart(first, HEAD_SIZE, HEAD_PART);
             to.addPart(heads[fields[2]], HEAD_SIZE, HEAD_PART);
-            if (fields[3] != NONE) {
+            if (hasFact(fields[3])) {
                 Row proof = proofs[fields[3]];
                 to.addPart(proof, PROOF_R, proof.size - PROOF_R);
             }

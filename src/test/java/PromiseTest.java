@@ -43,6 +43,7 @@ public final class PromiseTest {
         takeProof();
         takeProofFull();
         takeChangedProof();
+        takeProofToItself();
         takePath();
         gossip();
         holds();
@@ -55,6 +56,7 @@ public final class PromiseTest {
         trim();
         auditFork();
         auditBreach();
+        auditProofToItself();
         auditBounds();
         hash();
         System.out.println(checks + " checks, " + wrong + " wrong");
@@ -112,6 +114,15 @@ public final class PromiseTest {
         for (int k = 0; k < 4; k++) {
             x.alter(letter, at + k, x.letter(letter, at + k) ^ v >>> 24 - 8 * k);
         }
+    }
+
+    private static void putBytes(GossipWatch x, int letter, byte[] bytes) {
+        for (int k = 0; k < bytes.length; k++) x.alter(letter, k, x.letter(letter, k) ^ bytes[k]);
+    }
+
+    /** Hashes that RFC 9162's steps would follow from the root of 3 leaves to itself, did m < n not rule it out. */
+    private static byte[] hashesOfThree() {
+        return Model.all(Model.root(List.of(2)), Model.root(numbers(2)));
     }
 
     private static byte[] signed(long seed, int log, int size, byte[] root) {
@@ -593,6 +604,20 @@ public final class PromiseTest {
         due("a fact is a copy", y.fact(0, 0, 4), byteOfR);
     }
 
+    private static void takeProofToItself() {
+        promise = 13;
+        GossipWatch x = withLeaves(3);
+        due("head", x.take(0, x.head(1, 0, 3)), 1);
+        int proof = x.proof(1, 0, 1, 3);
+        due("two hashes", x.letter(proof, -2), 41 + 64);
+        due("from 1", x.take(0, proof), 1);
+        byte[] start = Model.all(Model.one(1), Model.four(3), Model.four(3), Model.root(numbers(3)));
+        putBytes(x, proof, Model.all(start, hashesOfThree()));
+        due("from 3 to 3", x.take(0, proof), -1);
+        x.cut(proof, 0);
+        due("without hashes", x.take(0, proof), -1);
+    }
+
     private static void takePath() {
         promise = 13;
         GossipWatch x = withLeaves(80);
@@ -924,6 +949,17 @@ public final class PromiseTest {
         }
         putOnDesk(y, Model.all(new byte[] {2, 1}, signed(7L, 1, 4, other), rest));
         due("m 4", y.audit(), true);
+    }
+
+    private static void auditProofToItself() {
+        promise = 23;
+        GossipWatch x = new GossipWatch(7L);
+        byte[] root = Model.root(numbers(3));
+        byte[] first = signed(7L, 1, 3, Model.sha());
+        putOnDesk(x, Model.all(new byte[] {2, 1}, first, signed(7L, 1, 3, root), root, hashesOfThree()));
+        due("from 3 to 3", x.audit(), false);
+        x.trim(122);
+        due("without hashes", x.audit(), false);
     }
 
     /** A breach from m = 2^15 - 1 to n = 2^15 has 1 + 15 hashes: as many as a DESK can have. */
