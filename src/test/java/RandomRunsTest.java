@@ -7,7 +7,7 @@ public final class RandomRunsTest {
     private static final int[] ODD = {-3, -2, -1, 4, 60, 80, 634, Integer.MIN_VALUE, Integer.MAX_VALUE};
 
     private final Random random;
-    private final GossipWatch real;
+    private final Watch real;
     private final Model model;
     private final int run;
     private final int log;
@@ -23,7 +23,7 @@ public final class RandomRunsTest {
         this.run = run;
         random = new Random(run);
         long seed = run % 5 == 0 ? run : random.nextLong();
-        real = new GossipWatch(seed);
+        real = new Watch(seed);
         model = new Model(seed);
         log = random.nextInt(4);
         smallTrees = random.nextInt(4) == 0;
@@ -291,9 +291,9 @@ public final class RandomRunsTest {
     private void audit() {
         boolean got = real.audit();
         due("audit()", bit(got), bit(model.audit()));
-        if (got && real.desk(0) == 1) reached[9]++;
-        if (got && real.desk(0) == 2) reached[10]++;
-        if (!got && real.desk(0) == 2) reached[11]++;
+        if (got && model.desk(0) == 1) reached[9]++;
+        if (got && model.desk(0) == 2) reached[10]++;
+        if (!got && model.desk(0) == 2) reached[11]++;
     }
 
     private void spoilDesk() {
