@@ -237,6 +237,22 @@ public final class DeskBoundaryTest {
         }
     }
 
+    /** A LOG that is none has no KEY: neither none at all nor one of zeros nor another LOG's will do. */
+    static void promise23_aLogWithoutAKeyIsNotRight() {
+        byte[] lastKey = Model.part(Model.sha(Model.one(3), Model.eight(Scene.SEED), Model.one(3)), 0, 8);
+        for (int log : new int[] {4, 5, 128, 255}) {
+            for (byte[] key : new byte[][] {{}, new byte[8], lastKey}) {
+                byte[] first = signedBy(key, log, 5, A);
+                dueRight("log " + log, Play.forkRecord(log, first, signedBy(key, log, 5, B)), false);
+            }
+        }
+    }
+
+    private static byte[] signedBy(byte[] key, int log, int size, byte[] root) {
+        byte[] sizeAndRoot = Model.all(Model.four(size), root);
+        return Model.all(sizeAndRoot, Model.part(Model.sha(Model.one(2), key, Model.one(log), sizeAndRoot), 0, 8));
+    }
+
     static void promise23_noSizeMayBeBelowZero() {
         for (int size : new int[] {-1, -5, Play.MIN}) {
             dueRight("a fork of size " + size, Play.forkRecord(LOG, head(size, A), head(size, B)), false);
@@ -282,6 +298,22 @@ public final class DeskBoundaryTest {
         onDesk(breach(4, 7)).then(x -> x.trim(154)).answers("154 bytes", x -> Play.bit(x.audit()), 1);
     }
 
+    /** From 1 to 3 two hashes lead; a part of the second one doesn't, however it is read. */
+    static void promise23_aPartOfAHashIsNotRight() {
+        byte[] c = Model.sha(Model.one(3));
+        byte[] below = Model.pair(B, A);
+        for (int n : new int[] {0, 1, 5, 31}) {
+            byte[] part = Model.part(c, 0, n);
+            byte[] padded = Model.all(part, new byte[32 - n]);
+            byte[][] roots = {Model.sha(Model.one(1), below), Model.sha(Model.one(1), below, part), Model.pair(below, padded), below};
+            for (byte[] root : roots) {
+                dueRight(n + " bytes", Play.breachRecord(LOG, head(1, A), head(3, root), Model.all(B, A, part)), false);
+            }
+        }
+        byte[] whole = Play.breachRecord(LOG, head(1, A), head(3, Model.pair(below, c)), Model.all(B, A, c));
+        dueRight("the whole hash", whole, true);
+    }
+
     static void promise23_theFirstSizeOfABreachIsAboveZero() {
         for (int n : new int[] {1, 2, 7}) dueRight("from 0 to " + n, breach(0, n), false);
         dueRight("from 1 to 2", breach(1, 2), true);
@@ -322,6 +354,11 @@ public final class DeskBoundaryTest {
         byte[] root = Model.pair(B, A);
         byte[] c = Model.sha(Model.one(3));
         dueRight("another r", Play.breachRecord(LOG, head(4, A), head(7, root), Model.all(c, A)), false);
+        for (int k = 0; k < 32; k++) {
+            byte[] near = with(root, k, root[k] ^ 128);
+            byte[] desk = Play.breachRecord(LOG, head(4, A), head(7, near), Model.all(B, A));
+            dueRight("a root that differs in byte " + k, desk, false);
+        }
         byte[] three = Model.pair(A, Model.pair(B, c));
         byte[] hashes = Model.all(B, c, A);
         byte[] r = Model.pair(A, B);

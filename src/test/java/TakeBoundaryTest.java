@@ -109,6 +109,22 @@ public final class TakeBoundaryTest {
         }
     }
 
+    /** A LOG that is none has no KEY: neither none at all nor one of zeros nor another LOG's will do. */
+    static void promise13_aHeadOfALogWithoutAKeyIsNone() {
+        byte[] sizeAndRoot = Model.all(Model.four(9), Model.root(Play.numbers(9)));
+        byte[] lastKey = Model.part(Model.sha(Model.one(3), Model.eight(Scene.SEED), Model.one(3)), 0, 8);
+        for (int log : new int[] {4, 5, 128, 255}) {
+            for (byte[] key : new byte[][] {{}, new byte[8], lastKey}) {
+                byte[] sign = Model.part(Model.sha(Model.one(2), key, Model.one(log), sizeAndRoot), 0, 8);
+                Scene scene = NINE.then(x -> {
+                    x.head(1, 0, 0);
+                    Play.putBytes(x, 0, 0, Model.all(Model.one(log), sizeAndRoot, sign));
+                });
+                scene.changes("log " + log, x -> x.take(0, 0), -1, ONE_REFUSED);
+            }
+        }
+    }
+
     static void promise13_aHeadOfASizeBelowZeroIsNone() {
         for (int size : new int[] {-1, -9, Play.MIN}) {
             Scene below = NINE.then(x -> Play.forge(x, 1, size, 0));
@@ -335,6 +351,36 @@ public final class TakeBoundaryTest {
         scene.changes("log 1 for log 2", x -> x.take(0, 1), -1, ONE_REFUSED);
         scene.then(x -> x.alter(1, 0, 1 ^ 2)).answers("log 2 for log 2", x -> x.take(0, 1), 1);
         scene.then(x -> x.alter(1, 0, 1 ^ 4)).changes("log 4", x -> x.take(0, 1), -1, ONE_REFUSED);
+    }
+
+    /** From 4 one hash leads to each n of 5 to 8, so that the ROOT may be the same. */
+    static void promise13_aProofForAHeadOfAnotherSizeIsNone() {
+        for (int n = 5; n <= 8; n++) {
+            for (int size = 5; size <= 8; size++) {
+                Watch x = oneHash(4, size);
+                Play.putNumber(x, 1, 5, n);
+                Checks.due("to " + n + " for " + size, x.take(0, 1), n == size ? 1 : -1);
+            }
+        }
+        for (int more : new int[] {1 << 8, 1 << 16, 1 << 24}) {
+            Watch x = oneHash(1 << 29, (1 << 29) + 1);
+            Play.putNumber(x, 1, 5, (1 << 29) + 1 + more);
+            Checks.due("to " + more + " more", x.take(0, 1), -1);
+        }
+    }
+
+    static void promise13_aProofForAHeadWhoseRootIsOneByteOffIsNone() {
+        for (int k = 5; k < 37; k++) {
+            Watch x = HEAD.made();
+            x.alter(0, k, 128);
+            x.sign(0);
+            Checks.due("head", x.take(0, 0), 1);
+            Checks.due("byte " + k, x.take(0, x.proof(1, 0, 4, 9)), -1);
+        }
+    }
+
+    static void promise13_aProofForNoneOfTwentyHeadsIsNone() {
+        TWENTY_HEADS.then(x -> x.proof(1, 0, 4, 9)).changes("take", x -> x.take(0, 0), -1, ONE_REFUSED);
     }
 
     static void promise13_aProofWithAnyByteChangedIsNone() {
@@ -576,6 +622,29 @@ public final class TakeBoundaryTest {
         dueRecord(x, 2, 2, 2, 0, 0);
     }
 
+    static void promise13_theFirstAndTheLastOfTwentyHeadsMayRaiseARecord() {
+        Watch x = NINE.made();
+        Play.takeForged(x, 0, 1, 4, 1);
+        x.take(0, x.head(1, 0, 9));
+        for (int i = 0; i < 17; i++) x.take(0, Play.forge(x, 2, i, 0));
+        Play.takeForged(x, 0, 1, 4, 2);
+        Checks.due("heads", x.holds(0, 0), 20);
+        Checks.due("take", x.take(0, x.proof(1, 0, 4, 9)), 1);
+        Checks.due("records", x.holds(0, 2), 3);
+        dueRecord(x, 0, 1, 0, 19, -1);
+        dueRecord(x, 1, 2, 0, 1, 0);
+        dueRecord(x, 2, 2, 19, 1, 0);
+    }
+
+    static void promise13_theFirstAndTheLastOfTwelveFactsMayRaiseARecord() {
+        for (int m : new int[] {1, 12}) {
+            Watch x = TWELVE_FACTS.made();
+            Checks.due("take", Play.takeForged(x, 0, 1, m, 1), 1);
+            Checks.due("records", x.holds(0, 2), 1);
+            dueRecord(x, 0, 2, 1, 0, m - 1);
+        }
+    }
+
     static void promise13_aHeadOfSizeMWhoseRootIsRRaisesNone() {
         Watch x = TAKEN.made();
         x.take(0, x.head(1, 0, 4));
@@ -614,6 +683,36 @@ public final class TakeBoundaryTest {
             x.path(1, 0, 9, 2);
             x.alter(1, 0, 1 ^ 2);
         }).keeps("another log", x -> x.take(0, 1), 0);
+    }
+
+    /** Of 5 to 8 leaves the first one's PATH has three hashes, all on its right, so that the ROOT may be the same. */
+    static void promise13_aPathForAHeadOfAnotherSizeIsZero() {
+        for (int n = 5; n <= 8; n++) {
+            for (int size = 5; size <= 8; size++) {
+                Watch x = NINE.made();
+                x.head(1, 0, 5);
+                Play.putNumber(x, 0, 1, size);
+                x.sign(0);
+                Checks.due("head", x.take(0, 0), 1);
+                x.path(1, 0, 5, 0);
+                Play.putNumber(x, 1, 1, n);
+                Checks.due("of " + n + " for " + size, x.take(0, 1), n == size ? 1 : 0);
+            }
+        }
+    }
+
+    static void promise13_aPathForAHeadWhoseRootIsOneByteOffIsZero() {
+        for (int k = 5; k < 37; k++) {
+            Watch x = HEAD.made();
+            x.alter(0, k, 128);
+            x.sign(0);
+            Checks.due("head", x.take(0, 0), 1);
+            Checks.due("byte " + k, x.take(0, x.path(1, 0, 9, 2)), 0);
+        }
+    }
+
+    static void promise13_aPathForNoneOfTwentyHeadsIsZero() {
+        TWENTY_HEADS.then(x -> x.path(1, 0, 9, 2)).keeps("take", x -> x.take(0, 0), 0);
     }
 
     static void promise13_aPathIsAcceptedForOneOfManyHeads() {
