@@ -267,6 +267,15 @@ public final class LetterBoundaryTest {
         }
     }
 
+    static void promise10_thereIsRoomForSixtyAgainAndAgain() {
+        Watch x = NINE.made();
+        for (int round = 0; round < 8; round++) {
+            for (int i = 0; i < 60; i++) Checks.due("head", x.head(1, 0, 9), i);
+            Checks.due("clear", x.clear(), 60);
+        }
+        Checks.due("letters", x.letters(), 0);
+    }
+
     // ---- promise 11: letters
 
     static void promise11_noneAtFirst() {

@@ -65,6 +65,18 @@ public final class LogBoundaryTest {
         Checks.dueBytes("head", Play.bytesOf(x, x.head(3, 0, 0)), Play.bytesOf(x, x.head(3, 1, 0)));
     }
 
+    /** An object is used for at most 512 calls: the last of them is answered like any other. */
+    static void promise01_the512thCallIsAnsweredAsTold() {
+        Watch x = NEW.made();
+        for (int view = 0; view < 6; view++) {
+            for (int i = 1; i <= 80; i++) Checks.due("append", x.append(view / 2, view % 2, i), i);
+        }
+        for (int i = 0; i < 30; i++) Checks.due("head", x.head(2, 1, 80 - i), i);
+        Checks.due("take", x.take(3, 29), 1);
+        Checks.due("calls left", x.callsLeft(), 1);
+        Checks.due("the 512th", x.held(3, 0, 4), 51);
+    }
+
     // ---- promise 2: append
 
     static void promise02_theFirstLeafAnswersOne() {

@@ -213,6 +213,19 @@ public final class MonitorBoundaryTest {
         TWELVE_FACTS.then(y -> y.take(0, y.proof(1, 0, 3, 80))).answers("a proof", y -> y.holds(0, 4), 1);
     }
 
+    /** In 512 calls there is room for more answers than a byte counts, and in gossip for thousands. */
+    static void promise15_answersAreCountedBeyondAByte() {
+        Watch x = NEW.made();
+        x.alter(x.head(0, 0, 0), 44, 1);
+        for (int i = 0; i < 509; i++) x.take(0, 0);
+        Checks.due("NONE", x.holds(0, 3), 509);
+        Watch y = TWENTY_HEADS.made();
+        for (int i = 0; i < 20; i++) y.take(1, Play.forge(y, 3, i, i));
+        for (int i = 0; i < 200; i++) Checks.due("gossip", y.gossip(0, 1), 0);
+        Checks.due("-3", y.holds(1, 4), 4000);
+        Checks.due("heads", y.holds(1, 0), 20);
+    }
+
     static void promise15_otherAnswersDoNotCount() {
         Scene scene = BUSY.then(x -> x.path(1, 0, 5, 2));
         scene.keeps("a path for no head", x -> x.take(0, 5), 0);
